@@ -53,18 +53,18 @@ public final class GraphWire {
     private int latestCulprit = NONE;
 
     // The sending under way, under the IDs of the objects that arrived in it. Arrivals that wait for another one to
-    // be complete are chained through waitingFor, in place of a recursion.
+    // be complete are chained through resumeNext, in place of a recursion.
     private final int[] sourceOf = new int[IDS];
     private final int[] nextField = new int[IDS];
-    private final int[] waitingFor = new int[IDS];
+    private final int[] resumeNext = new int[IDS];
     private int arriving = NONE;
 
-    // The collecting under way.
+    // The collecting under way; the list has each object of the side at most once.
     private final boolean[] reached = new boolean[IDS];
     private final int[] reachedList = new int[OBJECTS];
     private int reachedCount = 0;
 
-    // The relation that alike builds.
+    // The relation that alike builds; references stay on a side, so 16 * 16 pairs are all there can be.
     private final boolean[] related = new boolean[OBJECT_PAIRS];
     private final int[] relatedLeft = new int[OBJECT_PAIRS];
     private final int[] relatedRight = new int[OBJECT_PAIRS];
@@ -402,7 +402,7 @@ public final class GraphWire {
         }
         sourceOf[made] = id;
         nextField[made] = 0;
-        waitingFor[made] = arriving;
+        resumeNext[made] = arriving;
         arriving = made;
         return FINE;
     }
@@ -439,7 +439,7 @@ public final class GraphWire {
     private int fillNextField(int made) {
         int at = nextField[made];
         if (at >= CHAIN_FIELDS) {
-            arriving = waitingFor[made];
+            arriving = resumeNext[made];
             return FINE;
         }
         int source = sourceOf[made];
