@@ -22,22 +22,6 @@ public final class AlikeBoundaryTest {
         Checks.finish();
     }
 
-    /** Class 0 on both sides, with the references 0 and 9 and the int 5. */
-    private static void nodes(Wire x) {
-        for (int side = 0; side < 2; side++) {
-            x.define(side, 0, -1, side);
-            x.field(side, 0, 0, REFERENCE);
-            x.field(side, 0, 9, REFERENCE);
-            x.field(side, 0, 5, INT);
-        }
-    }
-
-    private static void makeMany(Wire x, int side, int count) {
-        for (int i = 0; i < count; i++) {
-            x.make(side, 0);
-        }
-    }
-
     private static void both(String what, Wire x, int a, int b, boolean due) {
         Checks.is(what, x.alike(a, b) ? 1 : 0, due ? 1 : 0);
         Checks.is(what + ", the other way round", x.alike(b, a) ? 1 : 0, due ? 1 : 0);
@@ -170,9 +154,9 @@ public final class AlikeBoundaryTest {
         Checks.sentence("or both are null references");
         for (int name : new int[] {0, 9}) {
             Wire x = new Wire();
-            nodes(x);
-            makeMany(x, 0, 2);
-            makeMany(x, 1, 1);
+            Nodes.define(x);
+            Nodes.make(x, 0, 2);
+            Nodes.make(x, 1, 1);
             both("null and null", x, 0, 32, true);
             x.link(0, name, 0);
             both("itself and null", x, 0, 32, false);
@@ -209,10 +193,10 @@ public final class AlikeBoundaryTest {
         Checks.sentence("or both are references to objects that are related");
         for (int depth = 1; depth < 16; depth++) {
             Wire x = new Wire();
-            nodes(x);
+            Nodes.define(x);
             x.define(0, 1, -1, 0);
-            makeMany(x, 0, 16);
-            makeMany(x, 1, 16);
+            Nodes.make(x, 0, 16);
+            Nodes.make(x, 1, 16);
             for (int n = 0; n < depth; n++) {
                 x.link(n, 9, n + 1);
                 x.link(32 + n, 9, 33 + n);
@@ -228,9 +212,9 @@ public final class AlikeBoundaryTest {
             both("back to the first", x, 0, 32, true);
         }
         Wire x = new Wire();
-        nodes(x);
+        Nodes.define(x);
         x.define(0, 1, -1, 0);
-        makeMany(x, 0, 2);
+        Nodes.make(x, 0, 2);
         x.make(0, 1);
         x.make(0, 0);
         x.link(0, 9, 2);
@@ -242,9 +226,9 @@ public final class AlikeBoundaryTest {
         Checks.sentence("Two objects are ALIKE if they stand in some relation for which holds");
         for (int left = 1; left <= 16; left++) {
             Wire x = new Wire();
-            nodes(x);
-            makeMany(x, 0, left);
-            makeMany(x, 1, 15);
+            Nodes.define(x);
+            Nodes.make(x, 0, left);
+            Nodes.make(x, 1, 15);
             for (int n = 0; n < left; n++) {
                 x.link(n, 9, (n + 1) % left);
             }
@@ -259,8 +243,8 @@ public final class AlikeBoundaryTest {
             both("the last of each with a mark", x, 0, 32, left == 15);
         }
         Wire x = new Wire();
-        nodes(x);
-        makeMany(x, 0, 4);
+        Nodes.define(x);
+        Nodes.make(x, 0, 4);
         x.link(0, 0, 1);
         x.link(0, 9, 1);
         x.link(2, 0, 1);
@@ -272,9 +256,9 @@ public final class AlikeBoundaryTest {
 
     /** The first field goes on at the left alone, the second at the right, so that all 256 pairs come to be related. */
     private static void allPairs(Wire x) {
-        nodes(x);
-        makeMany(x, 0, 16);
-        makeMany(x, 1, 16);
+        Nodes.define(x);
+        Nodes.make(x, 0, 16);
+        Nodes.make(x, 1, 16);
         for (int n = 0; n < 16; n++) {
             x.link(n, 0, (n + 1) % 16);
             x.link(n, 9, n);
@@ -309,9 +293,9 @@ public final class AlikeBoundaryTest {
         }
         State.refused("none at all", NEW, x -> x.alike(0, 0));
         Wire x = new Wire();
-        nodes(x);
-        makeMany(x, 0, 16);
-        makeMany(x, 1, 16);
+        Nodes.define(x);
+        Nodes.make(x, 0, 16);
+        Nodes.make(x, 1, 16);
         for (int id : new int[] {0, 15, 32, 47}) {
             both("there is " + id, x, id, 0, true);
             both("and itself", x, id, id, true);

@@ -534,19 +534,10 @@ public final class ClassBoundaryTest {
             x.pin(7, false);
             x.pin(38, false);
         };
-        State.Use sixteenth = x -> {
-            x.define(0, 0, -1, 0);
-            for (int n = 0; n < 15; n++) {
-                x.make(0, 0);
-            }
-            x.define(0, 1, -1, 0);
-            x.make(0, 1);
-        };
         State.refused("side 0", one, x -> x.field(0, 5, 7, INT));
         State.refused("side 1", one, x -> x.field(1, 3, 7, INT));
         State.refused("not pinned, side 0", unpinned, x -> x.field(0, 5, 7, INT));
         State.refused("not pinned, side 1", unpinned, x -> x.field(1, 3, 7, INT));
-        State.refused("with the number 15", sixteenth, x -> x.field(0, 1, 7, INT));
         Wire x = new Wire();
         unpinned.on(x);
         x.collect(0);
@@ -554,7 +545,26 @@ public final class ClassBoundaryTest {
         Checks.no("that of side 1 is there", x.field(1, 3, 7, INT));
         x.collect(1);
         Checks.yes("it is gone too", x.field(1, 3, 7, INT));
+        fieldWithOneOfEachNumber();
         fieldWithAnArrival();
+    }
+
+    private static void fieldWithOneOfEachNumber() {
+        for (int s = 0; s < 2; s++) {
+            int side = s;
+            for (int n = 0; n < 16; n++) {
+                int before = n;
+                State.Use one = x -> {
+                    x.define(side, 0, -1, 0);
+                    for (int i = 0; i < before; i++) {
+                        x.make(side, 0);
+                    }
+                    x.define(side, 1, -1, 0);
+                    x.make(side, 1);
+                };
+                State.refused("number " + n + " of side " + side, one, x -> x.field(side, 1, 7, INT));
+            }
+        }
     }
 
     private static void fieldWithAnArrival() {

@@ -1,6 +1,5 @@
 // The boundary cases of collecting, sentence by sentence: the terms, and promise 8.
 public final class CollectBoundaryTest {
-    private static final int INT = Checks.INT;
     private static final int REFERENCE = Checks.REFERENCE;
     private static final State.Use NEW = x -> { };
     private static final State.Use RICH = State::rich;
@@ -18,22 +17,6 @@ public final class CollectBoundaryTest {
         Checks.finish();
     }
 
-    /** Class 0 on both sides, with the references 0 and 9 and the int 5. */
-    private static void nodes(Wire x) {
-        for (int side = 0; side < 2; side++) {
-            x.define(side, 0, -1, 0);
-            x.field(side, 0, 0, REFERENCE);
-            x.field(side, 0, 9, REFERENCE);
-            x.field(side, 0, 5, INT);
-        }
-    }
-
-    private static void makeMany(Wire x, int side, int count) {
-        for (int i = 0; i < count; i++) {
-            x.make(side, 0);
-        }
-    }
-
     private static void unpin(Wire x, int... ids) {
         for (int id : ids) {
             x.pin(id, false);
@@ -46,8 +29,8 @@ public final class CollectBoundaryTest {
             int first = 32 * side;
             for (int count = 0; count < 16; count++) {
                 Wire x = new Wire();
-                nodes(x);
-                makeMany(x, side, 16);
+                Nodes.define(x);
+                Nodes.make(x, side, 16);
                 for (int n = 0; n < 16; n++) {
                     x.link(first + n, n % 2 == 0 ? 0 : 9, n < count ? first + n + 1 : -1);
                     x.pin(first + n, n == 0);
@@ -63,8 +46,8 @@ public final class CollectBoundaryTest {
 
     private static void backwards() {
         Wire x = new Wire();
-        nodes(x);
-        makeMany(x, 0, 16);
+        Nodes.define(x);
+        Nodes.make(x, 0, 16);
         for (int n = 0; n < 15; n++) {
             x.link(n + 1, 9, n);
             x.pin(n, false);
@@ -102,8 +85,8 @@ public final class CollectBoundaryTest {
     private static void ringsAreNotReached() {
         Checks.sentence("all its objects that can't be reached .. from an object that is pinned or in a pair");
         Wire x = new Wire();
-        nodes(x);
-        makeMany(x, 0, 6);
+        Nodes.define(x);
+        Nodes.make(x, 0, 6);
         x.link(0, 0, 0);
         x.link(1, 0, 2);
         x.link(2, 0, 1);
@@ -114,7 +97,7 @@ public final class CollectBoundaryTest {
         unpin(x, 0, 1, 2, 3, 4);
         Checks.is("one that refers to itself, and rings that refer to a pinned one", x.collect(0), 5);
         Checks.is("which is there", x.look(5), 8);
-        makeMany(x, 0, 2);
+        Nodes.make(x, 0, 2);
         x.link(5, 0, 0);
         x.link(0, 0, 1);
         x.link(1, 0, 0);
@@ -127,8 +110,8 @@ public final class CollectBoundaryTest {
         for (int side = 0; side < 2; side++) {
             for (int n : new int[] {0, 15}) {
                 Wire x = new Wire();
-                nodes(x);
-                makeMany(x, side, 16);
+                Nodes.define(x);
+                Nodes.make(x, side, 16);
                 for (int other = 0; other < 16; other++) {
                     x.pin(32 * side + other, other == n);
                 }
@@ -147,10 +130,10 @@ public final class CollectBoundaryTest {
             int here = 32 * side;
             int there = 32 - here;
             Wire x = new Wire();
-            nodes(x);
-            makeMany(x, side, 2);
+            Nodes.define(x);
+            Nodes.make(x, side, 2);
             x.send(here, false);
-            makeMany(x, 1 - side, 1);
+            Nodes.make(x, 1 - side, 1);
             x.link(here, 0, here + 1);
             x.link(there, 0, there + 1);
             unpin(x, here, here + 1, there, there + 1);
@@ -175,8 +158,8 @@ public final class CollectBoundaryTest {
 
     private static void fullPairs() {
         Wire x = new Wire();
-        nodes(x);
-        makeMany(x, 0, 16);
+        Nodes.define(x);
+        Nodes.make(x, 0, 16);
         for (int n = 0; n < 16; n++) {
             x.send(n, false);
             unpin(x, n, 32 + n);
@@ -190,8 +173,8 @@ public final class CollectBoundaryTest {
 
     private static void unsharedIsInNoPair() {
         Wire x = new Wire();
-        nodes(x);
-        makeMany(x, 0, 1);
+        Nodes.define(x);
+        Nodes.make(x, 0, 1);
         x.send(0, true);
         unpin(x, 0, 32);
         Checks.is("x of an unshared sending", x.collect(0), 1);
@@ -205,8 +188,8 @@ public final class CollectBoundaryTest {
         for (int side = 0; side < 2; side++) {
             for (int count = 0; count <= 16; count++) {
                 Wire x = new Wire();
-                nodes(x);
-                makeMany(x, side, 16);
+                Nodes.define(x);
+                Nodes.make(x, side, 16);
                 for (int n = 0; n < count; n++) {
                     x.pin(32 * side + n, false);
                 }

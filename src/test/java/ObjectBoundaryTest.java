@@ -2,7 +2,6 @@
 public final class ObjectBoundaryTest {
     private static final int BYTE = Checks.BYTE;
     private static final int SHORT = Checks.SHORT;
-    private static final int INT = Checks.INT;
     private static final int LONG = Checks.LONG;
     private static final int REFERENCE = Checks.REFERENCE;
     private static final State.Use NEW = x -> { };
@@ -38,29 +37,13 @@ public final class ObjectBoundaryTest {
         Checks.finish();
     }
 
-    /** Class 0 on both sides, with the references 0 and 9 and the int 5. */
-    private static void nodes(Wire x) {
-        for (int side = 0; side < 2; side++) {
-            x.define(side, 0, -1, 0);
-            x.field(side, 0, 0, REFERENCE);
-            x.field(side, 0, 9, REFERENCE);
-            x.field(side, 0, 5, INT);
-        }
-    }
-
-    private static void makeMany(Wire x, int side, int count) {
-        for (int i = 0; i < count; i++) {
-            x.make(side, 0);
-        }
-    }
-
     // ---- Terms ----
 
     private static void numbersOfASide() {
         Checks.sentence("OBJECTS of a side have numbers 0 to 15 (16 at most)");
         for (int side = 0; side < 2; side++) {
             Wire x = new Wire();
-            nodes(x);
+            Nodes.define(x);
             for (int n = 0; n < 16; n++) {
                 Checks.is("none yet", x.look(32 * side + n), -1);
                 Checks.is("number", x.make(side, 0), n);
@@ -75,9 +58,9 @@ public final class ObjectBoundaryTest {
     private static void idOfAnObject() {
         Checks.sentence("the ID of object n of side s is 32 * s + n");
         Wire x = new Wire();
-        nodes(x);
-        makeMany(x, 0, 16);
-        makeMany(x, 1, 16);
+        Nodes.define(x);
+        Nodes.make(x, 0, 16);
+        Nodes.make(x, 1, 16);
         for (int n = 0; n < 16; n++) {
             x.set(n, 5, 100 + n);
             x.set(32 + n, 5, 200 + n);
@@ -97,8 +80,8 @@ public final class ObjectBoundaryTest {
         for (int side = 0; side < 2; side++) {
             for (int n = 0; n < 16; n++) {
                 Wire x = new Wire();
-                nodes(x);
-                makeMany(x, side, 16);
+                Nodes.define(x);
+                Nodes.make(x, side, 16);
                 x.pin(32 * side + n, false);
                 x.pin(32 * side + 15, false);
                 x.collect(side);
@@ -113,9 +96,9 @@ public final class ObjectBoundaryTest {
     private static void arrivalGetsLeastNumber() {
         for (int n = 0; n < 16; n++) {
             Wire x = new Wire();
-            nodes(x);
-            makeMany(x, 1, 16);
-            makeMany(x, 0, 1);
+            Nodes.define(x);
+            Nodes.make(x, 1, 16);
+            Nodes.make(x, 0, 1);
             x.pin(32 + n, false);
             x.pin(47, false);
             x.collect(1);
@@ -198,9 +181,9 @@ public final class ObjectBoundaryTest {
     private static void referencesOfASide() {
         Checks.sentence("References are to objects of the same side.");
         Wire x = new Wire();
-        nodes(x);
-        makeMany(x, 0, 16);
-        makeMany(x, 1, 16);
+        Nodes.define(x);
+        Nodes.make(x, 0, 16);
+        Nodes.make(x, 1, 16);
         for (int target = 0; target < 48; target++) {
             boolean first = target < 16;
             boolean second = target >= 32;
@@ -217,7 +200,7 @@ public final class ObjectBoundaryTest {
         Checks.sentence("Makes an object, pinned, and answers its number");
         for (int side = 0; side < 2; side++) {
             Wire x = new Wire();
-            nodes(x);
+            Nodes.define(x);
             for (int n = 0; n < 16; n++) {
                 Checks.is("its number, not its ID", x.make(side, 0), n);
                 Checks.is("pinned", x.look(32 * side + n), 8);
@@ -252,8 +235,8 @@ public final class ObjectBoundaryTest {
     }
 
     private static void fill(Wire x, int side) {
-        nodes(x);
-        makeMany(x, side, 16);
+        Nodes.define(x);
+        Nodes.make(x, side, 16);
         x.pin(32 * side + 3, false);
         x.link(32 * side + 3, 0, 32 * side + 3);
         x.set(32 * side + 15, 5, 15);
@@ -266,8 +249,8 @@ public final class ObjectBoundaryTest {
         State.unchanged("side 1", x -> fill(x, 1), x -> x.make(1, 0), GraphWire.FULL);
         for (int side = 0; side < 2; side++) {
             Wire x = new Wire();
-            nodes(x);
-            makeMany(x, side, 15);
+            Nodes.define(x);
+            Nodes.make(x, side, 15);
             Checks.is("15 objects", x.make(side, 0), 15);
             Checks.is("16 objects", x.make(side, 0), GraphWire.FULL);
             Checks.is("the other side has none", x.make(1 - side, 0), 0);
@@ -277,8 +260,8 @@ public final class ObjectBoundaryTest {
             Checks.is("15 again", x.make(side, 0), 15);
         }
         Wire x = new Wire();
-        nodes(x);
-        makeMany(x, 0, 1);
+        Nodes.define(x);
+        Nodes.make(x, 0, 1);
         for (int n = 0; n < 16; n++) {
             x.send(0, true);
         }
@@ -508,9 +491,9 @@ public final class ObjectBoundaryTest {
         }
         State.refused("none at all", NEW, x -> x.pin(0, true));
         Wire x = new Wire();
-        nodes(x);
+        Nodes.define(x);
         Checks.no("pinned before it is made", x.pin(0, true));
-        makeMany(x, 0, 1);
+        Nodes.make(x, 0, 1);
         x.pin(0, false);
         x.collect(0);
         Checks.no("gone", x.pin(0, true));
@@ -649,9 +632,9 @@ public final class ObjectBoundaryTest {
             State.unchanged("a defined class", full, x -> x.make(side, 0), GraphWire.FULL);
         }
         Wire x = new Wire();
-        nodes(x);
-        makeMany(x, 0, 16);
-        makeMany(x, 1, 16);
+        Nodes.define(x);
+        Nodes.make(x, 0, 16);
+        Nodes.make(x, 1, 16);
         Checks.is("both full, side 2", x.make(2, 0), GraphWire.BAD);
         Checks.is("both full, class 1", x.make(1, 1), GraphWire.BAD);
         Checks.is("both full, class 0", x.make(1, 0), GraphWire.FULL);

@@ -42,38 +42,14 @@ public final class SendBoundaryTest {
         Checks.finish();
     }
 
-    /** Class 0 on both sides, with the references 0 and 9 and the int 5. */
-    private static void nodes(Wire x) {
-        for (int side = 0; side < 2; side++) {
-            x.define(side, 0, -1, 0);
-            x.field(side, 0, 0, REFERENCE);
-            x.field(side, 0, 9, REFERENCE);
-            x.field(side, 0, 5, INT);
-        }
-    }
-
-    private static void makeMany(Wire x, int side, int count) {
-        for (int i = 0; i < count; i++) {
-            x.make(side, 0);
-        }
-    }
-
-    /** Each refers to the next over the name 9, the last to the first. */
-    private static void ring(Wire x, int side, int count) {
-        makeMany(x, side, count);
-        for (int n = 0; n < count; n++) {
-            x.link(32 * side + n, 9, 32 * side + (n + 1) % count);
-        }
-    }
-
     // ---- the session ----
 
     private static void emptyAtFirst() {
         Checks.sentence("a set of pairs (object of the sending side, object of the other side), empty at first");
         Wire x = new Wire();
-        nodes(x);
-        makeMany(x, 0, 16);
-        makeMany(x, 1, 16);
+        Nodes.define(x);
+        Nodes.make(x, 0, 16);
+        Nodes.make(x, 1, 16);
         for (int n = 0; n < 16; n++) {
             Checks.is("side 0", x.sent(n), -1);
             Checks.is("side 1", x.sent(32 + n), -1);
@@ -87,8 +63,8 @@ public final class SendBoundaryTest {
     private static void knownIsNamed() {
         Checks.sentence("An object is KNOWN if it is the first of a pair. (An object that is not known arrives, a known one is only named.)");
         Wire x = new Wire();
-        nodes(x);
-        makeMany(x, 0, 1);
+        Nodes.define(x);
+        Nodes.make(x, 0, 1);
         Checks.is("arrives", x.send(0, false), 0);
         Checks.is("is known", x.sent(0), 32);
         Checks.is("the second of the pair is not", x.sent(32), -1);
@@ -97,7 +73,7 @@ public final class SendBoundaryTest {
         Checks.is("and is known then", x.sent(32), 1);
         Checks.is("what arrived for it is not", x.sent(1), -1);
         Checks.is("the first has its own pair still", x.sent(0), 32);
-        makeMany(x, 0, 1);
+        Nodes.make(x, 0, 1);
         x.link(2, 0, 0);
         x.link(2, 9, 1);
         Checks.is("refers to a known one and to one that is not", x.send(2, false), 1);
@@ -136,16 +112,16 @@ public final class SendBoundaryTest {
     }
 
     private static void ring0To1(Wire x, int count) {
-        nodes(x);
-        ring(x, 0, count);
+        Nodes.define(x);
+        Nodes.ring(x, 0, count);
         x.send(0, false);
     }
 
     private static void knownRefersToAStranger() {
         Wire x = new Wire();
-        nodes(x);
+        Nodes.define(x);
         x.define(0, 1, -1, 0);
-        makeMany(x, 0, 1);
+        Nodes.make(x, 0, 1);
         x.make(0, 1);
         x.send(0, false);
         x.link(0, 0, 1);
@@ -161,10 +137,10 @@ public final class SendBoundaryTest {
             int here = 32 * side;
             int there = 32 - here;
             Wire x = new Wire();
-            nodes(x);
-            ring(x, side, 3);
+            Nodes.define(x);
+            Nodes.ring(x, side, 3);
             x.pin(here, false);
-            makeMany(x, 1 - side, 4);
+            Nodes.make(x, 1 - side, 4);
             Checks.is("not known", x.send(here, false), 4);
             Checks.is("pinned, whatever x is", x.look(there + 4), 8);
             Checks.is("what comes along is not", x.look(there + 5), 0);
@@ -315,8 +291,11 @@ public final class SendBoundaryTest {
         x.define(1, 1, 0, 0);
         x.field(1, 1, 0, REFERENCE);
         x.make(0, 1);
+        x.set(0, 0, 5);
+        x.set(0, 1, 6);
         Checks.is("a name in different classes of the chains", x.send(0, false), 0);
         Checks.is("no value comes over", x.ref(32, 0), -1);
+        Checks.is("nor here", x.ref(32, 1), -1);
         x.define(0, 2, -1, 0);
         x.define(1, 2, -1, 0);
         for (int name = 0; name < 4; name++) {
@@ -340,9 +319,9 @@ public final class SendBoundaryTest {
         for (int side = 0; side < 2; side++) {
             int here = 32 * side;
             Wire x = new Wire();
-            nodes(x);
-            makeMany(x, 1 - side, 15);
-            makeMany(x, side, 2);
+            Nodes.define(x);
+            Nodes.make(x, 1 - side, 15);
+            Nodes.make(x, side, 2);
             Checks.is("one is free", x.send(here, false), 15);
             Checks.is("none is free", x.send(here + 1, false), GraphWire.FULL);
             Checks.is("nor unshared", x.send(here, true), GraphWire.FULL);
@@ -357,8 +336,8 @@ public final class SendBoundaryTest {
 
     private static void testedLast() {
         Wire x = new Wire();
-        nodes(x);
-        makeMany(x, 1, 16);
+        Nodes.define(x);
+        Nodes.make(x, 1, 16);
         x.define(0, 1, -1, 0);
         x.define(0, 2, -1, 0);
         x.define(1, 2, -1, 1);
@@ -379,9 +358,9 @@ public final class SendBoundaryTest {
         for (int there = 0; there < 3; there++) {
             for (int count = 14; count <= 16; count++) {
                 Wire x = new Wire();
-                nodes(x);
-                makeMany(x, 1, there);
-                ring(x, 0, count);
+                Nodes.define(x);
+                Nodes.make(x, 1, there);
+                Nodes.ring(x, 0, count);
                 boolean fits = there + count <= 16;
                 Checks.is(count + " arrive to " + there, x.send(0, false), fits ? there : GraphWire.FULL);
                 Checks.is("the last number", x.look(47), fits && there + count == 16 ? 0 : -1);
@@ -392,9 +371,9 @@ public final class SendBoundaryTest {
     private static void newObject() {
         Checks.sentence("A new object, not pinned, of that class is made there, with the least free number.");
         Wire x = new Wire();
-        nodes(x);
-        makeMany(x, 1, 16);
-        ring(x, 0, 4);
+        Nodes.define(x);
+        Nodes.make(x, 1, 16);
+        Nodes.ring(x, 0, 4);
         for (int n : new int[] {0, 7, 14, 15}) {
             x.pin(32 + n, false);
         }
@@ -421,8 +400,8 @@ public final class SendBoundaryTest {
     private static void pairJoins() {
         Checks.sentence("The pair (y, new object) joins the session, except at the first arrival of an unshared sending, that of x itself");
         Wire x = new Wire();
-        nodes(x);
-        ring(x, 0, 3);
+        Nodes.define(x);
+        Nodes.ring(x, 0, 3);
         x.link(2, 9, -1);
         Checks.is("unshared", x.send(0, true), 0);
         Checks.is("x does not join", x.sent(0), -1);
@@ -443,8 +422,8 @@ public final class SendBoundaryTest {
     private static void arrivesASecondTime() {
         Checks.sentence("(if x is referred to and not known, it arrives a second time in this sending, and that pair joins)");
         Wire self = new Wire();
-        nodes(self);
-        ring(self, 0, 1);
+        Nodes.define(self);
+        Nodes.ring(self, 0, 1);
         self.link(0, 0, 0);
         Checks.is("x refers to itself twice", self.send(0, true), 0);
         Checks.is("the second pair joins", self.sent(0), 33);
@@ -458,13 +437,13 @@ public final class SendBoundaryTest {
         Checks.is("and no more", self.look(35), -1);
         Checks.is("it refers to the known one", self.ref(34, 0), 33);
         Wire full = new Wire();
-        nodes(full);
-        ring(full, 0, 15);
+        Nodes.define(full);
+        Nodes.ring(full, 0, 15);
         Checks.is("15 arrive 16 times", full.send(0, true), 0);
         Checks.is("the last is x again", full.sent(0), 47);
         Wire over = new Wire();
-        nodes(over);
-        ring(over, 0, 16);
+        Nodes.define(over);
+        Nodes.ring(over, 0, 16);
         Checks.is("16 can't arrive 17 times", over.send(0, true), GraphWire.FULL);
         Checks.is("x is the culprit", over.culprit(), 0);
         Checks.is("shared they arrive 16 times", over.send(0, false), 0);
@@ -548,13 +527,36 @@ public final class SendBoundaryTest {
         Checks.is("chain 2, 1, 0 to chain 2", x.send(2, false), 2);
         Checks.is("what both have", x.num(34, 2), 23);
         Checks.is("what the other lacks", x.num(34, 1), 0);
+        nameOfAnotherClass();
+    }
+
+    private static void nameOfAnotherClass() {
+        Wire x = new Wire();
+        for (int side = 0; side < 2; side++) {
+            for (int cls = 0; cls < 3; cls++) {
+                int other = side == 0 ? cls : (cls + 1) % 3;
+                x.define(side, cls, cls - 1, 0);
+                x.field(side, cls, other, LONG);
+                x.field(side, cls, 4 + other, REFERENCE);
+            }
+            x.make(side, 2);
+        }
+        for (int name = 0; name < 3; name++) {
+            x.set(0, name, 7 + name);
+            x.link(0, 4 + name, 0);
+        }
+        Checks.is("all names, each in another class there", x.send(0, false), 1);
+        for (int name = 0; name < 3; name++) {
+            Checks.is("no number", x.num(33, name), 0);
+            Checks.is("no reference", x.ref(33, 4 + name), -1);
+        }
     }
 
     private static void secondOfThePair() {
         Checks.sentence("or for a reference to z the second of z's pair, if z is known by now");
         Wire x = new Wire();
-        nodes(x);
-        makeMany(x, 0, 3);
+        Nodes.define(x);
+        Nodes.make(x, 0, 3);
         x.send(2, false);
         x.link(0, 0, 0);
         x.link(0, 9, 1);
@@ -565,7 +567,7 @@ public final class SendBoundaryTest {
         Checks.is("z is x, seen from what came along", x.ref(34, 0), 33);
         Checks.is("z was known before", x.ref(34, 9), 32);
         Checks.is("nothing came twice", x.look(35), -1);
-        makeMany(x, 0, 1);
+        Nodes.make(x, 0, 1);
         x.link(3, 0, 1);
         x.link(3, 9, 1);
         Checks.is("both refer to one", x.send(3, false), 3);
@@ -576,8 +578,8 @@ public final class SendBoundaryTest {
     private static void arrivesAtOnce() {
         Checks.sentence("if not, z arrives first (at once, with all that belongs to it), and the new object made for z is the value");
         Wire x = new Wire();
-        nodes(x);
-        makeMany(x, 0, 7);
+        Nodes.define(x);
+        Nodes.make(x, 0, 7);
         x.link(0, 0, 1);
         x.link(0, 9, 2);
         x.link(1, 0, 3);
@@ -594,8 +596,8 @@ public final class SendBoundaryTest {
         Checks.is("a value after a branch", x.ref(33, 9), 37);
         Checks.is("what nothing refers to stays", x.sent(6), -1);
         Wire deep = new Wire();
-        nodes(deep);
-        ring(deep, 0, 16);
+        Nodes.define(deep);
+        Nodes.ring(deep, 0, 16);
         deep.link(15, 9, -1);
         Checks.is("15 wait for the sixteenth", deep.send(0, false), 0);
         for (int n = 0; n < 15; n++) {
@@ -662,7 +664,7 @@ public final class SendBoundaryTest {
     private static State.Use blocked(int side, int depth, int error) {
         int here = 32 * side;
         return x -> {
-            nodes(x);
+            Nodes.define(x);
             x.define(side, 1, -1, 0);
             x.define(side, 2, -1, 0);
             x.define(1 - side, 2, -1, 1);
@@ -670,20 +672,20 @@ public final class SendBoundaryTest {
             x.field(side, 3, 0, INT);
             x.define(1 - side, 3, -1, 0);
             x.field(1 - side, 3, 0, LONG);
-            makeMany(x, side, 1);
+            Nodes.make(x, side, 1);
             x.send(here, false);
-            makeMany(x, 1 - side, 1);
+            Nodes.make(x, 1 - side, 1);
             x.send(33 - here, false);
             x.pin(32 - here, false);
             x.pin(here + 1, false);
-            makeMany(x, side, depth);
+            Nodes.make(x, side, depth);
             x.make(side, error == GraphWire.NO_CLASS ? 1 : error == GraphWire.VERSION ? 2 : error == GraphWire.KIND ? 3 : 0);
             for (int n = 2; n < 2 + depth; n++) {
                 x.link(here + n, 0, here);
                 x.link(here + n, 9, here + n + 1);
                 x.set(here + n, 5, n);
             }
-            makeMany(x, 1 - side, error == GraphWire.FULL ? 14 - depth : 0);
+            Nodes.make(x, 1 - side, error == GraphWire.FULL ? 14 - depth : 0);
         };
     }
 
@@ -733,22 +735,32 @@ public final class SendBoundaryTest {
 
     private static void undoneFull() {
         Checks.sentence("all objects that have arrived in it are gone");
+        undoneSixteen(0);
+        undoneSixteen(1);
+        undoneBranches();
+    }
+
+    private static void undoneSixteen(int side) {
+        int here = 32 * side;
         Wire x = new Wire();
-        nodes(x);
-        ring(x, 0, 16);
-        Checks.is("16 arrived, the seventeenth did not", x.send(0, true), GraphWire.FULL);
+        Nodes.define(x);
+        Nodes.ring(x, side, 16);
+        Checks.is("16 arrived, the seventeenth did not", x.send(here, true), GraphWire.FULL);
         for (int n = 0; n < 16; n++) {
-            Checks.is("gone", x.look(32 + n), -1);
-            Checks.is("not known", x.sent(n), -1);
+            Checks.is("gone", x.look(32 - here + n), -1);
+            Checks.is("not known", x.sent(here + n), -1);
         }
-        Checks.is("nothing is there to collect", x.collect(1), 0);
+        Checks.is("nothing is there to collect", x.collect(1 - side), 0);
         for (int n = 0; n < 16; n++) {
-            Checks.is("all numbers are free", x.make(1, 0), n);
+            Checks.is("all numbers are free", x.make(1 - side, 0), n);
         }
+    }
+
+    private static void undoneBranches() {
         Wire branches = new Wire();
-        nodes(branches);
+        Nodes.define(branches);
         branches.define(0, 1, -1, 0);
-        makeMany(branches, 0, 4);
+        Nodes.make(branches, 0, 4);
         branches.make(0, 1);
         branches.link(0, 0, 1);
         branches.link(1, 0, 2);
@@ -801,11 +813,11 @@ public final class SendBoundaryTest {
             }
         }
         Wire x = new Wire();
-        nodes(x);
+        Nodes.define(x);
         x.define(0, 1, -1, 0);
         x.define(0, 2, -1, 0);
         x.define(1, 2, -1, 3);
-        makeMany(x, 0, 1);
+        Nodes.make(x, 0, 1);
         x.make(0, 2);
         x.make(0, 1);
         x.link(0, 0, 1);
@@ -817,9 +829,9 @@ public final class SendBoundaryTest {
     private static void valuesNotSentAgain() {
         Checks.sentence("Values that change after an object has arrived are not sent again while it is known.");
         Wire x = new Wire();
-        nodes(x);
+        Nodes.define(x);
         x.define(0, 1, -1, 0);
-        makeMany(x, 0, 3);
+        Nodes.make(x, 0, 3);
         x.make(0, 1);
         x.set(0, 5, 1);
         x.link(0, 0, 1);
@@ -856,9 +868,9 @@ public final class SendBoundaryTest {
         }
         State.unchanged("none at all", NEW, x -> x.send(0, false), GraphWire.BAD);
         Wire x = new Wire();
-        nodes(x);
-        makeMany(x, 0, 16);
-        makeMany(x, 1, 16);
+        Nodes.define(x);
+        Nodes.make(x, 0, 16);
+        Nodes.make(x, 1, 16);
         Checks.is("no object, though it would be FULL", x.send(16, false), GraphWire.BAD);
         Checks.is("31", x.send(31, false), GraphWire.BAD);
         Checks.is("48", x.send(48, false), GraphWire.BAD);
@@ -926,8 +938,8 @@ public final class SendBoundaryTest {
         State.unchanged("side 1, what came along", RICH, x -> x.sent(33), 6);
         for (int side = 0; side < 2; side++) {
             Wire x = new Wire();
-            nodes(x);
-            ring(x, side, 16);
+            Nodes.define(x);
+            Nodes.ring(x, side, 16);
             x.send(32 * side + 15, false);
             Checks.is("the first", x.sent(32 * side + 15), 32 - 32 * side);
             Checks.is("the last", x.sent(32 * side + 14), 47 - 32 * side);
@@ -943,15 +955,15 @@ public final class SendBoundaryTest {
             State.unchanged("not known " + id, RICH, x -> x.sent(id), -1);
         }
         Wire x = new Wire();
-        nodes(x);
-        makeMany(x, 0, 1);
+        Nodes.define(x);
+        Nodes.make(x, 0, 1);
         x.send(0, false);
         x.reset(0);
         Checks.is("known no more", x.sent(0), -1);
         x.pin(0, false);
         x.collect(0);
         Checks.is("gone", x.sent(0), -1);
-        makeMany(x, 0, 1);
+        Nodes.make(x, 0, 1);
         Checks.is("another with its number", x.sent(0), -1);
     }
 
@@ -960,7 +972,7 @@ public final class SendBoundaryTest {
     private static void culpritLatest() {
         Checks.sentence("The culprit of the latest send() that answered NO_CLASS, VERSION, KIND or FULL");
         Wire x = new Wire();
-        nodes(x);
+        Nodes.define(x);
         x.define(0, 1, -1, 0);
         x.define(0, 2, -1, 0);
         x.define(1, 2, -1, 1);
@@ -1017,16 +1029,16 @@ public final class SendBoundaryTest {
         Checks.sentence("culprit: -1 if there was none");
         State.unchanged("a new object", NEW, Wire::culprit, -1);
         Wire x = new Wire();
-        nodes(x);
+        Nodes.define(x);
         Checks.is("BAD", x.send(0, false), GraphWire.BAD);
         Checks.is("is none", x.culprit(), -1);
-        makeMany(x, 0, 16);
+        Nodes.make(x, 0, 16);
         x.make(0, 0);
         x.send(15, false);
         x.send(15, false);
         x.send(15, true);
         Checks.is("none yet", x.culprit(), -1);
-        makeMany(x, 1, 14);
+        Nodes.make(x, 1, 14);
         Checks.is("FULL", x.send(15, true), GraphWire.FULL);
         Checks.is("now there is one", x.culprit(), 15);
     }
