@@ -282,6 +282,29 @@ public final class AlikeBoundaryTest {
             x.set(32 + n, 5, 0);
         }
         both("no mark", x, 0, 32, true);
+        askedBefore();
+    }
+
+    /** What an earlier call came to look at, and found not alike, is no matter to the next one. */
+    private static void askedBefore() {
+        for (int depth = 1; depth < 15; depth++) {
+            Wire x = new Wire();
+            Nodes.define(x);
+            Nodes.make(x, 0, 16);
+            Nodes.make(x, 1, 16);
+            for (int n = 0; n < depth; n++) {
+                x.link(n, 9, n + 1);
+                x.link(32 + n, 9, 33 + n);
+            }
+            x.set(depth, 5, 1);
+            both("not alike after " + depth, x, 0, 32, false);
+            both("asked for two others then", x, 15, 47, true);
+        }
+        Wire x = new Wire();
+        allPairs(x);
+        x.set(15, 5, 1);
+        both("not alike after many", x, 0, 32, false);
+        both("an object and itself then", x, 0, 0, true);
     }
 
     private static void noSuchObjects() {
