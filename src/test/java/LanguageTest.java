@@ -16,7 +16,7 @@ import javax.tools.StandardJavaFileManager;
 import javax.tools.ToolProvider;
 
 // The rules of LANGUAGE.md that can be read off the source. That no index is out of bounds and that every loop ends at a
-// bound (7, 8) is not shown here; ModelTest and PromiseTest look for it with wrong inputs.
+// bound (7, 8) is not shown here; LongUseTest looks for it.
 public final class LanguageTest {
     private static final String SOURCE = "src/main/java/GraphWire.java";
     private static final Set<Tree.Kind> FORBIDDEN = EnumSet.of(

@@ -64,8 +64,8 @@ public final class PromiseTest {
     }
 
     /** Class 0 on both sides, version 1, with references 0 and 1 and the int 2. */
-    private static GraphWire nodes() {
-        GraphWire x = new GraphWire();
+    private static Wire nodes() {
+        Wire x = new Wire();
         for (int side = 0; side < 2; side++) {
             x.define(side, 0, -1, 1);
             x.field(side, 0, 0, REFERENCE);
@@ -75,14 +75,14 @@ public final class PromiseTest {
         return x;
     }
 
-    private static void makeMany(GraphWire x, int side, int count) {
+    private static void makeMany(Wire x, int side, int count) {
         for (int i = 0; i < count; i++) {
             x.make(side, 0);
         }
     }
 
     private static void newObject() {
-        GraphWire x = new GraphWire();
+        Wire x = new Wire();
         is("1: no culprit", x.culprit(), -1);
         for (int id = -1; id < 65; id++) {
             is("1: look " + id, x.look(id), -1);
@@ -95,14 +95,14 @@ public final class PromiseTest {
             }
             is("1: collect", x.collect(side), 0);
         }
-        GraphWire y = nodes();
+        Wire y = nodes();
         y.make(0, 0);
         is("1: objects of GraphWire are apart", x.look(0), -1);
         is("1: and their classes", x.make(0, 0), GraphWire.BAD);
     }
 
     private static void define() {
-        GraphWire x = new GraphWire();
+        Wire x = new Wire();
         no("2: side -1", x.define(-1, 0, -1, 0));
         no("2: side 2", x.define(2, 0, -1, 0));
         no("2: side max", x.define(Integer.MAX_VALUE, 0, -1, 0));
@@ -137,7 +137,7 @@ public final class PromiseTest {
     }
 
     private static void definedWithoutFields() {
-        GraphWire x = nodes();
+        Wire x = nodes();
         yes("2: a class beside another", x.define(0, 1, -1, 1));
         is("2: make", x.make(0, 1), 0);
         for (int name = 0; name < 10; name++) {
@@ -147,7 +147,7 @@ public final class PromiseTest {
     }
 
     private static void field() {
-        GraphWire x = new GraphWire();
+        Wire x = new Wire();
         no("3: no class yet", x.field(0, 0, 0, 0));
         no("3: cls -1 while none was defined", x.field(0, -1, 0, 0));
         x.define(0, 0, -1, 0);
@@ -188,7 +188,7 @@ public final class PromiseTest {
     }
 
     private static void fieldWithObjects() {
-        GraphWire x = new GraphWire();
+        Wire x = new Wire();
         x.define(0, 0, -1, 0);
         x.make(0, 0);
         no("3: an object of the class", x.field(0, 0, 0, 0));
@@ -210,7 +210,7 @@ public final class PromiseTest {
     }
 
     private static void make() {
-        GraphWire x = nodes();
+        Wire x = nodes();
         is("4: side -1", x.make(-1, 0), GraphWire.BAD);
         is("4: side 2", x.make(2, 0), GraphWire.BAD);
         is("4: cls not defined", x.make(0, 1), GraphWire.BAD);
@@ -239,8 +239,8 @@ public final class PromiseTest {
         is("4: not known", x.sent(3), -1);
     }
 
-    private static GraphWire kinds() {
-        GraphWire x = new GraphWire();
+    private static Wire kinds() {
+        Wire x = new Wire();
         x.define(0, 0, -1, 0);
         x.field(0, 0, 0, BYTE);
         x.field(0, 0, 9, REFERENCE);
@@ -254,7 +254,7 @@ public final class PromiseTest {
     }
 
     private static void set() {
-        GraphWire x = kinds();
+        Wire x = kinds();
         long[] values = {0, 1, -1, 127, 128, -128, -129, 255, 256, 32767, 32768, -32768, -32769, 65535, 65536,
             2147483647L, 2147483648L, -2147483648L, -2147483649L, 4294967295L, 4294967296L,
             Long.MAX_VALUE, Long.MIN_VALUE, 0x123456789abcdef0L, 0xfedcba9876543210L};
@@ -284,7 +284,7 @@ public final class PromiseTest {
     }
 
     private static void link() {
-        GraphWire x = nodes();
+        Wire x = nodes();
         makeMany(x, 0, 2);
         makeMany(x, 1, 3);
         yes("6: to another", x.link(0, 0, 1));
@@ -316,7 +316,7 @@ public final class PromiseTest {
     }
 
     private static void pin() {
-        GraphWire x = nodes();
+        Wire x = nodes();
         makeMany(x, 0, 1);
         makeMany(x, 1, 1);
         yes("7: pinned already", x.pin(0, true));
@@ -336,7 +336,7 @@ public final class PromiseTest {
     }
 
     private static void collect() {
-        GraphWire x = nodes();
+        Wire x = nodes();
         is("8: side -1", x.collect(-1), GraphWire.BAD);
         is("8: side 2", x.collect(2), GraphWire.BAD);
         is("8: side max", x.collect(Integer.MAX_VALUE), GraphWire.BAD);
@@ -366,7 +366,7 @@ public final class PromiseTest {
     }
 
     private static void collectSessions() {
-        GraphWire x = nodes();
+        Wire x = nodes();
         makeMany(x, 0, 3);
         x.link(0, 0, 1);
         x.send(0, false);
@@ -393,7 +393,7 @@ public final class PromiseTest {
     }
 
     private static void sendKnown() {
-        GraphWire x = nodes();
+        Wire x = nodes();
         for (int id : WRONG_IDS) {
             is("9: no object " + id, x.send(id, false), GraphWire.BAD);
             is("9: no object, unshared " + id, x.send(id, true), GraphWire.BAD);
@@ -430,7 +430,7 @@ public final class PromiseTest {
     }
 
     private static void sendShape() {
-        GraphWire x = nodes();
+        Wire x = nodes();
         makeMany(x, 0, 16);
         for (int n = 0; n < 16; n++) {
             x.link(n, 0, (n + 1) % 16);
@@ -449,7 +449,7 @@ public final class PromiseTest {
     }
 
     private static void sendOrder() {
-        GraphWire x = new GraphWire();
+        Wire x = new Wire();
         for (int side = 0; side < 2; side++) {
             x.define(side, 3, -1, 0);
             x.field(side, 3, 8, REFERENCE);
@@ -482,7 +482,7 @@ public final class PromiseTest {
     }
 
     private static void sendUnshared() {
-        GraphWire x = nodes();
+        Wire x = nodes();
         makeMany(x, 0, 3);
         x.link(0, 0, 1);
         x.link(0, 1, 2);
@@ -516,7 +516,7 @@ public final class PromiseTest {
     }
 
     private static void sendBetweenDifferentClasses() {
-        GraphWire x = new GraphWire();
+        Wire x = new Wire();
         x.define(0, 0, -1, 7);
         x.field(0, 0, 0, INT);
         x.field(0, 0, 1, LONG);
@@ -562,7 +562,7 @@ public final class PromiseTest {
     }
 
     private static void sendSkippedFields() {
-        GraphWire x = new GraphWire();
+        Wire x = new Wire();
         x.define(0, 0, -1, 0);
         x.field(0, 0, 0, REFERENCE);
         x.define(0, 1, 0, 0);
@@ -586,7 +586,7 @@ public final class PromiseTest {
     }
 
     private static void sendErrors() {
-        GraphWire x = new GraphWire();
+        Wire x = new Wire();
         x.define(0, 0, -1, 1);
         x.make(0, 0);
         x.define(1, 1, -1, 1);
@@ -607,7 +607,7 @@ public final class PromiseTest {
         is("9: fields of one side alone are no matter", x.send(1, false), 1);
         for (int kind = 0; kind < 5; kind++) {
             for (int other = 0; other < 5; other++) {
-                GraphWire y = new GraphWire();
+                Wire y = new Wire();
                 y.define(0, 0, -1, 0);
                 y.define(1, 0, -1, 0);
                 y.field(0, 0, 9, kind);
@@ -620,7 +620,7 @@ public final class PromiseTest {
     }
 
     private static void versionsOfParents() {
-        GraphWire x = new GraphWire();
+        Wire x = new Wire();
         x.define(0, 0, -1, 1);
         x.define(0, 1, 0, 1);
         x.define(0, 2, 1, 1);
@@ -641,7 +641,7 @@ public final class PromiseTest {
 
     /** Class 2 below 1 below 0 on side 0; side 1 has the same, but for the versions and the kinds that are asked for. */
     private static int sendAcross(int topVersion, int topKind, int midVersion, int midKind, int ownVersion, int ownKind) {
-        GraphWire x = new GraphWire();
+        Wire x = new Wire();
         for (int side = 0; side < 2; side++) {
             x.define(side, 0, -1, side * topVersion);
             x.field(side, 0, 0, side * topKind);
@@ -666,7 +666,7 @@ public final class PromiseTest {
         is("9: the topmost's kind before the middle's version", sendAcross(0, 1, 1, 0, 0, 0), GraphWire.KIND);
         is("9: the middle's kind before its own version", sendAcross(0, 0, 0, 1, 1, 0), GraphWire.KIND);
         is("9: the topmost's version before the middle's kind", sendAcross(1, 0, 0, 1, 0, 0), GraphWire.VERSION);
-        GraphWire x = new GraphWire();
+        Wire x = new Wire();
         x.define(0, 0, -1, 0);
         x.field(0, 0, 0, INT);
         x.define(0, 1, 0, 0);
@@ -675,7 +675,7 @@ public final class PromiseTest {
         x.field(1, 0, 0, LONG);
         x.make(0, 0);
         is("9: only the class itself is in both chains", x.send(0, false), GraphWire.KIND);
-        GraphWire y = new GraphWire();
+        Wire y = new Wire();
         y.define(0, 1, -1, 0);
         y.field(0, 1, 1, INT);
         y.define(0, 2, 1, 0);
@@ -691,7 +691,7 @@ public final class PromiseTest {
     }
 
     private static void sendFull() {
-        GraphWire x = nodes();
+        Wire x = nodes();
         x.define(0, 1, -1, 0);
         x.define(0, 2, -1, 0);
         x.define(1, 2, -1, 1);
@@ -732,7 +732,7 @@ public final class PromiseTest {
     }
 
     private static void sendUndone() {
-        GraphWire x = nodes();
+        Wire x = nodes();
         x.define(0, 1, -1, 0);
         makeMany(x, 0, 4);
         x.make(0, 1);
@@ -767,7 +767,7 @@ public final class PromiseTest {
     }
 
     private static void sendBothWays() {
-        GraphWire x = nodes();
+        Wire x = nodes();
         makeMany(x, 0, 2);
         x.link(0, 0, 1);
         x.link(1, 0, 0);
@@ -783,7 +783,7 @@ public final class PromiseTest {
     }
 
     private static void reset() {
-        GraphWire x = nodes();
+        Wire x = nodes();
         makeMany(x, 0, 2);
         makeMany(x, 1, 1);
         x.link(0, 0, 1);
@@ -808,7 +808,7 @@ public final class PromiseTest {
     }
 
     private static void num() {
-        GraphWire x = kinds();
+        Wire x = kinds();
         x.set(0, 0, 100);
         x.set(0, 3, Long.MIN_VALUE);
         x.link(0, 9, 0);
@@ -833,7 +833,7 @@ public final class PromiseTest {
     }
 
     private static void ref() {
-        GraphWire x = nodes();
+        Wire x = nodes();
         makeMany(x, 0, 2);
         makeMany(x, 1, 2);
         x.link(0, 0, 1);
@@ -853,7 +853,7 @@ public final class PromiseTest {
     }
 
     private static void look() {
-        GraphWire x = new GraphWire();
+        Wire x = new Wire();
         for (int cls = 0; cls < 6; cls++) {
             x.define(0, cls, -1, 0);
             x.define(1, 5 - cls, -1, 0);
@@ -875,7 +875,7 @@ public final class PromiseTest {
     }
 
     private static void sent() {
-        GraphWire x = nodes();
+        Wire x = nodes();
         makeMany(x, 0, 2);
         makeMany(x, 1, 3);
         is("14: not known", x.sent(0), -1);
@@ -891,7 +891,7 @@ public final class PromiseTest {
     }
 
     private static void culprit() {
-        GraphWire x = nodes();
+        Wire x = nodes();
         x.define(1, 1, -1, 0);
         makeMany(x, 0, 1);
         makeMany(x, 1, 1);
@@ -918,7 +918,7 @@ public final class PromiseTest {
     }
 
     private static void alike() {
-        GraphWire x = nodes();
+        Wire x = nodes();
         x.define(0, 1, -1, 0);
         makeMany(x, 0, 4);
         x.make(0, 1);
@@ -957,7 +957,7 @@ public final class PromiseTest {
     }
 
     private static void alikeCycles() {
-        GraphWire x = nodes();
+        Wire x = nodes();
         makeMany(x, 0, 16);
         makeMany(x, 1, 16);
         for (int n = 0; n < 16; n++) {
@@ -980,7 +980,7 @@ public final class PromiseTest {
     }
 
     private static void alikeAcrossClasses() {
-        GraphWire x = new GraphWire();
+        Wire x = new Wire();
         x.define(0, 0, -1, 1);
         x.field(0, 0, 0, BYTE);
         x.field(0, 0, 1, INT);
@@ -1006,7 +1006,7 @@ public final class PromiseTest {
         x.set(32, 2, 1);
         no("16: their own number", x.alike(0, 32));
         no("16: and the other way round", x.alike(32, 0));
-        GraphWire y = new GraphWire();
+        Wire y = new Wire();
         y.define(0, 0, -1, 0);
         y.field(0, 0, 0, INT);
         y.define(1, 0, -1, 0);
@@ -1015,7 +1015,7 @@ public final class PromiseTest {
         y.make(1, 0);
         no("16: a number and null", y.alike(0, 32));
         no("16: null and a number", y.alike(32, 0));
-        GraphWire z = new GraphWire();
+        Wire z = new Wire();
         z.define(0, 0, -1, 0);
         z.field(0, 0, 0, INT);
         z.define(0, 1, 0, 0);
@@ -1030,7 +1030,7 @@ public final class PromiseTest {
     }
 
     private static void orderAndLimits() {
-        GraphWire x = nodes();
+        Wire x = nodes();
         makeMany(x, 0, 16);
         is("17: BAD class on a full side", x.make(0, 1), GraphWire.BAD);
         is("17: BAD class name on a full side", x.make(0, 6), GraphWire.BAD);
